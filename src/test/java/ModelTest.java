@@ -30,6 +30,8 @@ public final class ModelTest {
     private static final class Model {
         final List<Game> games = new ArrayList<>();
         final List<int[]> sets = new ArrayList<>();
+        // Each add with its two sets, each drop as an empty array.
+        final List<int[]> history = new ArrayList<>();
         final Map<List<Object>, Boolean> known = new HashMap<>();
 
         Model() {
@@ -50,7 +52,13 @@ public final class ModelTest {
             sets.add(new int[] {left, right});
         }
 
-        void pop() {
+        void add(int left, int right) {
+            push(left, right);
+            history.add(new int[] {left, right});
+        }
+
+        void drop() {
+            history.add(new int[0]);
             games.remove(games.size() - 1);
             sets.remove(sets.size() - 1);
         }
@@ -210,12 +218,13 @@ public final class ModelTest {
         due(m, "compareSum", p, q, r, x.compareSum(p, q, r), want);
     }
 
-    /** More than 512 calls may go to one object here: the answers are the same ones. */
-    private static void askAll(GameValues x, Model m) {
+    /** A fresh object for each p keeps every object below the 512 calls that are promised. */
+    private static void askAll(Model m) {
         int count = m.games.size();
-        due(m, "positions", 0, 0, 0, x.positions(), count);
-        due(m, "values", 0, 0, 0, x.values(), m.values());
         for (int p = 0; p < count; p++) {
+            GameValues x = made(m);
+            due(m, "positions", 0, 0, 0, x.positions(), count);
+            due(m, "values", 0, 0, 0, x.values(), m.values());
             askOne(x, m, p);
             for (int q = 0; q < count; q++) {
                 askTwo(x, m, p, q);
@@ -226,36 +235,32 @@ public final class ModelTest {
         }
     }
 
-    private static void add(GameValues x, Model m, int left, int right) {
-        due(m, "add", left, right, 0, x.add(left, right), m.games.size());
-        m.push(left, right);
-    }
-
-    private static void drop(GameValues x, Model m) {
-        due(m, "drop", 0, 0, 0, x.drop(), m.games.size() - 1);
-        m.pop();
-    }
-
-    /** Every object of up to four positions, made by adding and dropping on one object. */
-    private static void allSmallObjects() {
+    /** An object on which all that was done to the model is done, and answered as due. */
+    private static GameValues made(Model m) {
         GameValues x = new GameValues();
-        Model m = new Model();
-        askAll(x, m);
-        for (int one = 0; one < 4; one++) {
-            add(x, m, one & 1, one >> 1);
-            askAll(x, m);
-            for (int two = 0; two < 16; two++) {
-                add(x, m, two & 3, two >> 2);
-                askAll(x, m);
-                for (int three = 0; three < 64; three++) {
-                    add(x, m, three & 7, three >> 3);
-                    askAll(x, m);
-                    drop(x, m);
-                }
-                drop(x, m);
+        int count = 1;
+        for (int[] step : m.history) {
+            if (step.length == 0) {
+                count--;
+                due(m, "drop", 0, 0, 0, x.drop(), count);
+            } else {
+                due(m, "add", step[0], step[1], 0, x.add(step[0], step[1]), count);
+                count++;
             }
-            m.known.clear();
-            drop(x, m);
+        }
+        return x;
+    }
+
+    /** Every object of four positions, the last one in the place of a dropped one. */
+    private static void allSmallObjects() {
+        for (int sets = 0; sets < 4 * 16 * 64; sets++) {
+            Model m = new Model();
+            m.add(sets & 1, sets >> 1 & 1);
+            m.add(sets >> 2 & 3, sets >> 4 & 3);
+            m.add(~sets >> 6 & 7, ~sets >> 9 & 7);
+            m.drop();
+            m.add(sets >> 6 & 7, sets >> 9 & 7);
+            askAll(m);
         }
     }
 
@@ -277,21 +282,20 @@ public final class ModelTest {
 
     private static void fullObjects() {
         for (int round = 0; round < 60; round++) {
-            GameValues x = new GameValues();
             Model m = new Model();
             int sparse = round % 3;
             for (int step = 0; m.games.size() < 10; step++) {
                 if (step % 4 == 3) {
-                    drop(x, m);
+                    m.drop();
                 }
                 int count = m.games.size();
-                add(x, m, someSet(count, sparse), someSet(count, sparse));
+                m.add(someSet(count, sparse), someSet(count, sparse));
             }
-            due(m, "add when full", 0, 0, 0, x.add(0, 0), -2);
-            askAll(x, m);
-            drop(x, m);
-            add(x, m, someSet(9, sparse), someSet(9, sparse));
-            askAll(x, m);
+            due(m, "add when full", 0, 0, 0, made(m).add(0, 0), -2);
+            askAll(m);
+            m.drop();
+            m.add(someSet(9, sparse), someSet(9, sparse));
+            askAll(m);
         }
     }
 

@@ -1057,7 +1057,7 @@ public final class BoundaryTest {
         promises1To4();
         promises5To9();
         promises10To15();
-        System.out.println(wrong == 0 ? tests + " sentences hold" : wrong + " answers are not as due");
+        System.out.println(wrong == 0 ? tests + " tests of boundary cases hold" : wrong + " answers are not as due");
         if (wrong != 0) {
             System.exit(1);
         }
